@@ -1,0 +1,137 @@
+import java.lang.reflect.InvocationTargetException;
+import java.lang.reflect.Method;
+import java.util.HashMap;
+import java.util.Map;
+
+/**
+ * A run of calls on one new object, told in lines: a method's name, its arguments and, behind "->", the answer due
+ * (IOOBE, IAE and ISE are the exceptions). Besides:
+ * draft S S S             puts these signs behind the draft
+ * text S S S -> N         the same, and text(); so with anchor
+ * rule T H : S S / S S    the same with an anchor and an item
+ * times N LINE            the line N times, where no answer is due
+ */
+final class Script {
+    private static final int CALLS = 512;
+    private static final Map<String, Method> FACE = new HashMap<>();
+    private static int wrong;
+    private static int answers;
+
+    private final String name;
+    private final Collationer x = new Collationer();
+    private int calls;
+
+    static {
+        for (Method method : Collationer.class.getMethods()) {
+            if (method.getDeclaringClass() == Collationer.class) {
+                FACE.put(method.getName(), method);
+            }
+        }
+    }
+
+    Script(String name) {
+        this.name = name;
+    }
+
+    static Script run(String name, String lines) {
+        Script script = new Script(name);
+        script.lines(lines);
+        return script;
+    }
+
+    static void end() {
+        System.out.println(wrong == 0 ? answers + " answers are as due" : wrong + " answers are not as due");
+        if (wrong != 0) {
+            System.exit(1);
+        }
+    }
+
+    void lines(String lines) {
+        for (String line : lines.split("\n")) {
+            if (!line.isBlank() && !line.strip().startsWith("#")) {
+                line(line.strip());
+            }
+        }
+    }
+
+    private void line(String line) {
+        String[] sides = line.split("\\s*->\\s*");
+        String[] words = sides[0].split("\\s+");
+        String want = sides.length > 1 ? sides[1].strip() : null;
+        switch (words[0]) {
+            case "times" -> {
+                for (int i = 0; i < Integer.parseInt(words[1]); i++) {
+                    line(line.split("\\s+", 3)[2]);
+                }
+            }
+            case "draft" -> draft(words, 1, words.length);
+            case "text", "anchor" -> {
+                draft(words, 1, words.length);
+                due(want, words[0]);
+            }
+            case "rule" -> rule(words, want);
+            default -> {
+                Object[] arguments = new Object[words.length - 1];
+                for (int i = 0; i < arguments.length; i++) {
+                    arguments[i] = words[i + 1].matches("true|false") ? (Object) Boolean.valueOf(words[i + 1]) : Integer.valueOf(words[i + 1]);
+                }
+                due(want, words[0], arguments);
+            }
+        }
+    }
+
+    private void draft(String[] words, int from, int to) {
+        for (int i = from; i < to; i++) {
+            due(null, "sign", Integer.valueOf(words[i]));
+        }
+    }
+
+    private void rule(String[] words, String want) {
+        int colon = java.util.Arrays.asList(words).indexOf(":");
+        int slash = java.util.Arrays.asList(words).indexOf("/");
+        if (colon > 0) {
+            draft(words, colon + 1, slash);
+            due(null, "anchor");
+            draft(words, slash + 1, words.length);
+        }
+        due(want, "rule", Integer.valueOf(words[1]), Integer.valueOf(words[2]));
+    }
+
+    /** The answer as a text; exceptions by their short names. */
+    String call(String method, Object... arguments) {
+        calls++;
+        if (calls == CALLS + 1) {
+            wrong++;
+            System.out.println(name + ": the test has more calls than are promised");
+        }
+        try {
+            return String.valueOf(FACE.get(method).invoke(x, arguments));
+        } catch (InvocationTargetException e) {
+            Class<?> type = e.getCause().getClass();
+            return type == IndexOutOfBoundsException.class ? "IOOBE"
+                    : type == IllegalArgumentException.class ? "IAE"
+                    : type == IllegalStateException.class ? "ISE" : type.getName();
+        } catch (IllegalAccessException e) {
+            return "no access";
+        }
+    }
+
+    void due(Object want, String method, Object... arguments) {
+        String got = call(method, arguments);
+        boolean isThrown = got.matches("IOOBE|IAE|ISE|.*\\..*");
+        if (want == null ? isThrown : !got.equals(String.valueOf(want))) {
+            wrong++;
+            System.out.println(name + ": " + method + java.util.Arrays.toString(arguments) + " answered " + got
+                    + ", due is " + (want == null ? "no exception" : want));
+        }
+        answers++;
+    }
+
+    static void same(String what, Object one, Object other) {
+        answers++;
+        if (!one.equals(other)) {
+            wrong++;
+            System.out.println(what + ": " + one + " and " + other + " are not the same");
+        }
+    }
+}
