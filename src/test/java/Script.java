@@ -10,6 +10,9 @@ import java.util.Map;
  * text S S S -> N         the same, and text(); so with anchor
  * rule T H : S S / S S    the same with an anchor and an item
  * times N LINE            the line N times, where no answer is due
+ * all M A A -> V V        the method M asked for the indexes 0, 1 .. behind the arguments: these answers, and no more
+ * items T I -> V V        itemAt from the index I on: these answers, one behind the other
+ * orders T S A B -> N     compare and compareByLevels, and both the other way round
  */
 final class Script {
     private static final int CALLS = 512;
@@ -70,14 +73,44 @@ final class Script {
                 due(want, words[0]);
             }
             case "rule" -> rule(words, want);
+            case "all" -> all(words[1], arguments(words, 2), want == null ? new String[0] : want.split("\\s+"));
+            case "items" -> items(Integer.valueOf(words[1]), Integer.parseInt(words[2]), want.split("\\s+"));
+            case "orders" -> orders(arguments(words, 1), Integer.parseInt(want));
             default -> {
-                Object[] arguments = new Object[words.length - 1];
-                for (int i = 0; i < arguments.length; i++) {
-                    arguments[i] = words[i + 1].matches("true|false") ? (Object) Boolean.valueOf(words[i + 1]) : Integer.valueOf(words[i + 1]);
-                }
-                due(want, words[0], arguments);
+                due(want, words[0], arguments(words, 1));
             }
         }
+    }
+
+    private static Object[] arguments(String[] words, int from) {
+        Object[] arguments = new Object[words.length - from];
+        for (int i = 0; i < arguments.length; i++) {
+            String word = words[i + from];
+            arguments[i] = word.matches("true|false") ? (Object) Boolean.valueOf(word) : Integer.valueOf(word);
+        }
+        return arguments;
+    }
+
+    private void all(String method, Object[] arguments, String[] wants) {
+        Object[] all = java.util.Arrays.copyOf(arguments, arguments.length + 1);
+        for (int i = 0; i <= wants.length; i++) {
+            all[arguments.length] = i;
+            String end = method.matches("itemAt|entryAt|lineAt") ? "IOOBE" : "-1";
+            due(i < wants.length ? wants[i] : end, method, all);
+        }
+    }
+
+    private void items(Integer tailoring, int from, String[] wants) {
+        for (int i = 0; i < wants.length; i++) {
+            due(wants[i], "itemAt", tailoring, from + i);
+        }
+    }
+
+    private void orders(Object[] a, int want) {
+        due(want, "compare", a);
+        due(want, "compareByLevels", a);
+        due(-want, "compare", a[0], a[1], a[3], a[2]);
+        due(-want, "compareByLevels", a[0], a[1], a[3], a[2]);
     }
 
     private void draft(String[] words, int from, int to) {
