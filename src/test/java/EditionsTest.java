@@ -230,6 +230,32 @@ public final class EditionsTest {
                 compose 41 40 24 -> 2
                 columnOf 0 1 -> 7
                 """);
+        exactLength("nothing else", 0, "", "");
+        exactLength("turned", 1, "", "form 0 2 1");
+        exactLength("a particle", 0, "", "form 0 1 1");
+        exactLength("a group", 3, "", "locate 0 7 2");
+        exactLength("two groups", 6, "", "locate 0 7 0\nlocate 0 9 0");
+        exactLength("two pages of a group", 3, "", "locate 0 7 1\nlocate 0 8 1");
+        exactLength("it sees one", 5, "", "see 0 1 false");
+        exactLength("it sees one also", 3, "", "see 0 1 true");
+        exactLength("it sees two also", 6, "entry -1 0 2", "see 0 1 true\nsee 0 2 true");
+        exactLength("it is seen", 0, "", "see 1 0 false\nsee 1 0 true");
+        Script.run("37 the length of a sub-entry", """
+                text 0 1 -> 0
+                text 0 1 2 -> 1
+                text 11 -> 2
+                columns 4 40 -> 12
+                entry -1 2 1 -> 0
+                entry 0 0 1 -> 1
+                entry 0 2 1 -> 2
+                # 4
+                columnOf 0 1 -> 1
+                columnOf 0 2 -> 2
+                entry 0 1 1 -> 3
+                # 5
+                columnOf 0 3 -> 2
+                columnOf 0 2 -> 4
+                """);
         Script.run("37 lengths rounded up", """
                 text 0 1 2 3 -> 0
                 text 0 1 2 3 4 -> 1
@@ -243,6 +269,18 @@ public final class EditionsTest {
                 columns 5 40 -> 4
                 columnOf 0 2 -> 2
                 """);
+    }
+
+    /** Texts of 2 to 9 signs, and what makes the entry longer by some; as many lines as go into the length with 4. */
+    private static void exactLength(String name, int more, String ahead, String lines) {
+        for (int signs = 2; signs <= 9; signs++) {
+            Script s = new Script("37 the length of an entry: " + name + ", " + signs + " signs");
+            s.lines("columns 4 40\ndraft " + "1 ".repeat(signs) + "\ntext\ntext 11");
+            s.lines("entry -1 0 1\nentry -1 1 1");
+            s.lines(ahead);
+            s.lines(lines);
+            s.due((signs + more + 3) / 4, "columnOf", 0, 1);
+        }
     }
 
     private static void headings() {

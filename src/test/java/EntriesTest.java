@@ -144,6 +144,27 @@ public final class EntriesTest {
                 # 29 0 28 1
                 all entryAt 0 -> 3 2 0 1
                 """);
+        Script.run("12 behind the blank come the first signs", """
+                text 1 2 0 -> 0
+                text 2 0 0 -> 1
+                text 1 1 0 -> 2
+                text 0 -> 3
+                entry -1 0 1 -> 0
+                entry -1 1 1 -> 1
+                entry -1 2 1 -> 2
+                entry -1 3 1 -> 3
+                form 0 2 2 -> 0
+                form 1 2 2 -> 0
+                form 2 2 2 -> 0
+                # 0; 0 28 1 1; 0 28 1 2; 0 28 2 0
+                all entryAt 0 -> 3 2 0 1
+                form 1 2 1 -> 2
+                # 0 0 28 2
+                all entryAt 0 -> 3 2 0 1
+                form 2 2 1 -> 2
+                # 1 0 28 1
+                all entryAt 0 -> 3 0 1 2
+                """);
         Script.run("12 a form is taken apart, and its marks may be torn off", """
                 compose 40 0 24 -> 1
                 text 40 1 -> 0

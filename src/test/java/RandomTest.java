@@ -214,7 +214,8 @@ public final class RandomTest {
 
     public static void main(String[] args) {
         int runs = args.length > 1 ? Integer.parseInt(args[1]) : 1500;
-        for (int seed = 1; seed <= runs; seed++) {
+        int first = args.length > 2 ? Integer.parseInt(args[2]) : 1;
+        for (int seed = first; seed < first + runs; seed++) {
             if (!new RandomTest(seed).run()) {
                 System.out.println("the run with the seed " + seed + " is wrong");
                 System.exit(1);

@@ -107,10 +107,10 @@ final class Script {
     }
 
     private void orders(Object[] a, int want) {
-        due(want, "compare", a);
         due(want, "compareByLevels", a);
-        due(-want, "compare", a[0], a[1], a[3], a[2]);
         due(-want, "compareByLevels", a[0], a[1], a[3], a[2]);
+        due(want, "compare", a);
+        due(-want, "compare", a[0], a[1], a[3], a[2]);
     }
 
     private void draft(String[] words, int from, int to) {

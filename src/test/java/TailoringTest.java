@@ -384,6 +384,12 @@ public final class TailoringTest {
     }
 
     private static void rulesAndItems() {
+        Script s = new Script("24 as many items as can be");
+        for (int i = 0; i < 12; i++) {
+            s.lines("rule 0 1 : 23 / 23 " + i + " -> " + (i + 1));
+        }
+        s.lines("items 0 36 -> 1002412 1002411 1002410 1002409\nitemAt 0 47 -> 1002401\nitemAt 0 48 -> IOOBE");
+        s.lines("text 23 0 23 11 23 -> 0\nall element 0 0 -> 360101 250101 240102");
         Script.run("23 and 24", """
                 rules 0 -> 0
                 rules 3 -> IOOBE
