@@ -165,6 +165,19 @@ public final class EntriesTest {
                 # 1 0 28 1
                 all entryAt 0 -> 3 0 1 2
                 """);
+        Script.run("12 the last sign of the longest form", """
+                compose 40 0 24 -> 1
+                compose 41 40 25 -> 2
+                compose 42 40 26 -> 3
+                text 42 41 41 41 41 41 41 41 41 41 -> 0
+                text 41 41 41 41 41 41 41 41 41 41 -> 1
+                entry -1 0 1 -> 0
+                entry -1 1 1 -> 1
+                form 0 2 3 -> 0
+                form 1 2 3 -> 0
+                # 26 and 25 are the 31st ones
+                all entryAt 0 -> 1 0
+                """);
         Script.run("12 a form is taken apart, and its marks may be torn off", """
                 compose 40 0 24 -> 1
                 text 40 1 -> 0
