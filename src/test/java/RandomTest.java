@@ -10,6 +10,7 @@ import java.util.Random;
 /** Long runs of calls, drawn from fixed seeds, on the class and on the Model: every answer has to be the same. */
 public final class RandomTest {
     private static final int CALLS = 512;
+    private static final int KINDS = 22;
     private static final int[] ODD = {-1, -2, 3, 8, 12, 24, 28, 30, 40, 48, 100, 1000, Integer.MAX_VALUE, Integer.MIN_VALUE};
     private static final Map<String, Method> OF_CLASS = methods(Collationer.class);
     private static final Map<String, Method> OF_MODEL = methods(Model.class);
@@ -23,9 +24,12 @@ public final class RandomTest {
     private int entries;
     private int words;
     private boolean isWrong;
+    /** Of every other run the sort of calls that comes often, so that it comes to what is full; or -1. */
+    private final int focus;
 
     private RandomTest(long seed) {
         random = new Random(seed);
+        focus = seed % 2 == 0 ? -1 : (int) (seed / 2 % KINDS);
         alphabet = new int[4 + random.nextInt(9)];
         for (int i = 0; i < alphabet.length; i++) {
             int kind = random.nextInt(20);
@@ -122,7 +126,7 @@ public final class RandomTest {
     }
 
     private void tell() {
-        switch (random.nextInt(22)) {
+        switch (focus >= 0 && random.nextInt(3) > 0 ? focus : random.nextInt(KINDS)) {
             case 0 -> compose();
             case 1, 2, 3 -> rule();
             case 4 -> call("adopt", upTo(3), upTo(3));

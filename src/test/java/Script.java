@@ -5,10 +5,12 @@ import java.util.Map;
 
 /**
  * A run of calls on one new object, told in lines: a method's name, its arguments and, behind "->", the answer due
- * (IOOBE, IAE and ISE are the exceptions). Besides:
+ * (IOOBE, IAE and ISE are the exceptions; the arguments "least" and "greatest" are the least and the greatest int).
+ * Besides:
  * draft S S S             puts these signs behind the draft
  * text S S S -> N         the same, and text(); so with anchor
  * rule T H : S S / S S    the same with an anchor and an item
+ * norule T H : S S / S S  such a rule is not possible, and its item is still the draft, which is wiped then
  * times N LINE            the line N times, where no answer is due
  * all M A A -> V V        the method M asked for the indexes 0, 1 .. behind the arguments: these answers, and no more
  * items T I -> V V        itemAt from the index I on: these answers, one behind the other
@@ -73,6 +75,7 @@ final class Script {
                 due(want, words[0]);
             }
             case "rule" -> rule(words, want);
+            case "norule" -> noRule(words);
             case "all" -> all(words[1], arguments(words, 2), want == null ? new String[0] : want.split("\\s+"));
             case "items" -> items(Integer.valueOf(words[1]), Integer.parseInt(words[2]), want.split("\\s+"));
             case "orders" -> orders(arguments(words, 1), Integer.parseInt(want));
@@ -82,13 +85,21 @@ final class Script {
         }
     }
 
-    private static Object[] arguments(String[] words, int from) {
+    static Object[] arguments(String[] words, int from) {
         Object[] arguments = new Object[words.length - from];
         for (int i = 0; i < arguments.length; i++) {
-            String word = words[i + from];
-            arguments[i] = word.matches("true|false") ? (Object) Boolean.valueOf(word) : Integer.valueOf(word);
+            arguments[i] = argument(words[i + from]);
         }
         return arguments;
+    }
+
+    private static Object argument(String word) {
+        return switch (word) {
+            case "true", "false" -> Boolean.valueOf(word);
+            case "least" -> Integer.MIN_VALUE;
+            case "greatest" -> Integer.MAX_VALUE;
+            default -> Integer.valueOf(word);
+        };
     }
 
     private void all(String method, Object[] arguments, String[] wants) {
@@ -127,7 +138,12 @@ final class Script {
             due(null, "anchor");
             draft(words, slash + 1, words.length);
         }
-        due(want, "rule", Integer.valueOf(words[1]), Integer.valueOf(words[2]));
+        due(want, "rule", argument(words[1]), argument(words[2]));
+    }
+
+    private void noRule(String[] words) {
+        rule(words, "ISE");
+        due(words.length - 1 - java.util.Arrays.asList(words).indexOf("/"), "wipe");
     }
 
     /** The answer as a text; exceptions by their short names. */
