@@ -1,4 +1,4 @@
-/** The promises 7 to 9, 23 and 24 at their bounds: ahead of each test a remark says the sentence that it is about. */
+/** The promises 7 to 9, 23 and 24 (and the weights of 25) at their bounds: ahead of each test a remark says the sentence that it is about. */
 public final class TailoringBoundsTest {
     private TailoringBoundsTest() {
     }
@@ -563,12 +563,12 @@ public final class TailoringBoundsTest {
     private static void weights() {
         // "the first item has the weights 1, 1, 1; an item with the level 1 has 1 more than the one ahead of it for the first weight, and 1 and 1"
         // "The list is gone through"
-        Script.run("Promise 24: the least weights and the greatest at first", """
+        Script.run("Promise 25: the least weights and the greatest at first", """
                 text 28 29 11 23 -> 0
                 all element 0 0 -> 10101 20101 240101 240102
                 """);
         // "with the level 2 the same first weight, 1 more for the second one, and 1; with the level 3 the same first two, and 1 more for the third one; with the level 4 the same three"
-        Script.run("Promise 24: each level behind each one", """
+        Script.run("Promise 25: each level behind each one", """
                 rule 0 0 : 23 / 0 0 -> 1
                 rule 0 3 : 0 0 / 0 1 -> 2
                 rule 0 2 : 0 1 / 0 2 -> 3
@@ -587,7 +587,7 @@ public final class TailoringBoundsTest {
         weightsOfTwelve(3, 240114);
         weightsOfTwelve(0, 240102);
         // "(The first item of the list has the level 1.)"
-        Script.run("Promise 24: the first item has the weights 1, 1, 1, whichever it is", """
+        Script.run("Promise 25: the first item has the weights 1, 1, 1, whichever it is", """
                 rule 0 6 : 28 / 5 -> 1
                 text 5 28 29 -> 0
                 all element 0 0 -> 10101 10102 20101
@@ -600,7 +600,7 @@ public final class TailoringBoundsTest {
     /** 12 items behind the last one of the list: the weights of the last one then. */
     private static void weightsOfTwelve(int how, int last) {
         // "A tailoring has at most 12 rules."
-        Script s = new Script("Promise 24: 12 items more, by the sort " + how);
+        Script s = new Script("Promise 25: 12 items more, by the sort " + how);
         for (int i = 0; i < 12; i++) {
             s.lines("rule 0 " + how + " : " + (i == 0 ? "23" : "0 " + (i - 1)) + " / 0 " + i + " -> " + (i + 1));
         }
