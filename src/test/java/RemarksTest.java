@@ -11,7 +11,7 @@ import java.util.regex.Pattern;
 
 /**
  * The remarks ahead of the tests at the bounds are what the document says, and each sentence of a promise and of its
- * terms stands ahead of a test: of a promise one that names this promise.
+ * terms stands, whole or in part, ahead of a test: of a promise one that names this promise.
  */
 public final class RemarksTest {
     private static final Pattern REMARK = Pattern.compile("\\s*// \"(.*)\"");
